@@ -638,7 +638,7 @@ public final class SqueakShop {
         final int[] v = new int[SOUNDS];
         final int[] loud = new int[SOUNDS];
         final int[] house = new int[SOUNDS];
-        /** The ROWS, one behind the other. */
+        /** The ROWS, one behind the other; 0 for SOUNDS that are still to come, as THE IMAGE brings all back. */
         final int[] more = new int[SOUNDS * PARTS];
         int year;
         Street street;
@@ -666,10 +666,6 @@ public final class SqueakShop {
             v[sounds] = itsV;
             loud[sounds] = itsLoud;
             house[sounds] = itsHouse;
-            // an undone SOUND may have left its ROW here
-            for (int part = 0; part < PARTS; part++) {
-                more[sounds * PARTS + part] = 0;
-            }
             sounds++;
             return sounds - 1;
         }
@@ -1021,6 +1017,10 @@ public final class SqueakShop {
         private final int[] house = new int[SOUNDS];
         private final int[] noise = new int[HOUSES];
         private final boolean[] lost = new boolean[SOUNDS];
+        /** By SHARED: what is HEARD of each SOUND in each HOUSE at least. */
+        private final int[] atLeast = new int[SOUNDS * HOUSES];
+        /** By SHARED: NOISE with so many SOUNDS put, and the least of the others. */
+        private final int[] sums = new int[(SOUNDS + 1) * HOUSES];
         final int[] bestHouse = new int[SOUNDS];
         int bestGreatest;
         int bestTotal;
@@ -1065,14 +1065,7 @@ public final class SqueakShop {
             return most;
         }
 
-        private int total() {
-            int all = 0;
-            for (int there = 0; there < HOUSES; there++) {
-                all += noise[there];
-            }
-            return all;
-        }
-
+        /** HOME. */
         int calmestHouse(int sound) {
             int calmest = 0;
             int least = Integer.MAX_VALUE;
@@ -1087,41 +1080,67 @@ public final class SqueakShop {
             return calmest;
         }
 
+        /** SHARED. */
         void shareOut() {
             bestGreatest = Integer.MAX_VALUE;
             bestTotal = Integer.MAX_VALUE;
-            for (int s = 0; s < sounds; s++) {
-                put(s, LOST);
+            for (int there = 0; there < HOUSES; there++) {
+                sums[there] = 0;
+                for (int s = 0; s < sounds; s++) {
+                    atLeast[s * HOUSES + there] = leastHeard(s, there);
+                    sums[there] += atLeast[s * HOUSES + there];
+                }
             }
             shareFrom(0);
         }
 
-        /** All ways for this SOUND and those behind it, in the order of rows. */
+        /** What is HEARD of a SOUND in a HOUSE at least, wherever it is put. */
+        private int leastHeard(int sound, int there) {
+            int quietest = lost[sound] ? 0 : Integer.MAX_VALUE;
+            for (int from = 0; from < HOUSES; from++) {
+                quietest = Math.min(quietest, heardFrom(sound, from, there));
+            }
+            return quietest;
+        }
+
+        /** All ways for this SOUND and those behind it, in the order of rows, but those that can't be better. */
         private void shareFrom(int sound) {
             if (sound >= sounds) {
                 keepWay();
-            } else if (lost[sound]) {
-                shareFrom(sound + 1);
-            } else {
-                for (int there = 0; there < HOUSES; there++) {
-                    put(sound, there);
-                    // a SOUND more takes no NOISE away: what is no better now will not be
-                    if (isBetter()) {
-                        shareFrom(sound + 1);
-                    }
+                return;
+            }
+            int first = lost[sound] ? LOST : 0;
+            int last = lost[sound] ? LOST : HOUSES - 1;
+            for (int there = first; there <= last; there++) {
+                if (isBetter(sound, there)) {
+                    shareFrom(sound + 1);
                 }
-                put(sound, LOST);
             }
         }
 
-        private boolean isBetter() {
-            int most = greatest();
-            return most < bestGreatest || most == bestGreatest && total() < bestTotal;
+        /** Puts a SOUND; whether the way may be better yet, with the least of all that are behind it. */
+        private boolean isBetter(int sound, int itsHouse) {
+            house[sound] = itsHouse;
+            int most = 0;
+            int all = 0;
+            for (int there = 0; there < HOUSES; there++) {
+                int place = sound * HOUSES + there;
+                int sum = sums[place] - atLeast[place] + heardFrom(sound, itsHouse, there);
+                sums[place + HOUSES] = sum;
+                most = Math.max(most, sum);
+                all += sum;
+            }
+            return most < bestGreatest || most == bestGreatest && all < bestTotal;
         }
 
         private void keepWay() {
-            bestGreatest = greatest();
-            bestTotal = total();
+            bestGreatest = 0;
+            bestTotal = 0;
+            for (int there = 0; there < HOUSES; there++) {
+                int sum = sums[sounds * HOUSES + there];
+                bestGreatest = Math.max(bestGreatest, sum);
+                bestTotal += sum;
+            }
             for (int s = 0; s < sounds; s++) {
                 bestHouse[s] = house[s];
             }

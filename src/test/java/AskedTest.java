@@ -89,6 +89,12 @@ public final class AskedTest {
         DUE.is("NONE ahead of BAD", x.on(61, 22), -1);
         x.lose(0);
         DUE.is("LOST", x.on(5, 20), 20);
+        SqueakShop y = new SqueakShop();
+        y.sound(5, 7, 0, 3);
+        y.sound(6, 7, 0, 3);
+        y.row(1, 2, 9);
+        DUE.is("v of RAIN", y.on(2, 11), 7);
+        DUE.is("the ROW of TOLD", y.on(2, 13), 9);
     }
 
     private static void when() {
@@ -141,6 +147,11 @@ public final class AskedTest {
         x.lose(2);
         DUE.is("a LOST one", x.home(2), 2);
         DUE.is("it is still LOST", x.of(2, 3), -5);
+        x.set(0, 5);
+        DUE.is("HOUSE 0", x.home(1), 1);
+        x.lose(0);
+        DUE.is("HOUSE 0", x.home(1), 0);
+        x.find(0, 0);
         DUE.is("home(3)", x.home(3), -1);
         DUE.is("home(-1)", x.home(-1), -1);
         DUE.is("nothing changes", x.of(0, 3), 0);
@@ -160,6 +171,8 @@ public final class AskedTest {
             DUE.is("shared(" + what + ")", x.shared(what), -1);
         }
         DUE.is("nothing changes", x.of(0, 3), 4);
+        DUE.is("no SOUNDS", new SqueakShop().shared(0), 0);
+        DUE.is("no SOUNDS", new SqueakShop().shared(1), 0);
         SqueakShop y = new SqueakShop();
         y.sound(0, 0, 20, 2);
         Due.street(y, "wall 8");
@@ -181,6 +194,9 @@ public final class AskedTest {
         x.lose(0);
         x.set(3, 25);
         DUE.is("without LOST ones", x.best(0), 34);
+        SqueakShop lone = apart(10, 30, 0, 10, 1);
+        lone.lose(1);
+        DUE.is("not with a LOST one", lone.best(0), -5);
         DUE.is("nothing changes", x.of(1, 3), 0);
         SqueakShop y = apart(10, 30, 0, 20, 1);
         DUE.is("none is less", y.best(0), -5);
@@ -223,6 +239,8 @@ public final class AskedTest {
         SqueakShop x = apart(20, 20, 0, 20, 0, 9, 0);
         x.lose(1);
         steps(x, 1, 1, -5, -5);
+        steps(apart(0), 0, -5, -5, -5);
+        steps(apart(0, 0, 3), 0, -5, -5, -5);
         DUE.is("fewest(3)", x.fewest(3), -1);
         DUE.is("fewest(-2)", x.fewest(-2), -1);
         DUE.is("nothing changes", x.of(0, 3), 0);
@@ -372,6 +390,12 @@ public final class AskedTest {
         DUE.is("house -1", x.odds(-1, 0), Long.MIN_VALUE);
         DUE.is("part 2", x.odds(0, 2), Long.MIN_VALUE);
         DUE.is("part -1", x.odds(0, -1), Long.MIN_VALUE);
+        SqueakShop y = apart(10, 20, 0);
+        DUE.is("one SOUND", y.odds(0, 0), 1);
+        DUE.is("one SOUND", y.odds(0, 1), 1);
+        SqueakShop z = apart(10, 10, 0, 5, 1);
+        DUE.is("STILL at CALM", z.odds(0, 0), 1);
+        DUE.is("STILL at CALM", z.odds(0, 1), 1);
         DUE.is("no SOUNDS", new SqueakShop().odds(0, 0), Long.MIN_VALUE);
         DUE.is("no SOUNDS", new SqueakShop().odds(0, 1), Long.MIN_VALUE);
     }
@@ -430,6 +454,12 @@ public final class AskedTest {
         DUE.is("behind, twice", x.ends(0), 21);
         x.plan(3, 1);
         DUE.is("ahead", x.ends(0), 19);
+        SqueakShop y = apart(10, 20, 1, 5, 0, 5, 3, 20, 4);
+        y.plan(3, 0);
+        DUE.is("ahead, to HOUSE 0", y.ends(0), 25);
+        y.plan(-1, 0);
+        y.plan(2, 2);
+        DUE.is("behind, to HOUSE 4", y.ends(0), 25);
         x.plan(1, 0);
         DUE.is("LOST", x.ends(0), 11);
         DUE.is("LOST, STILL", x.ends(1), 4);

@@ -271,14 +271,20 @@ public final class SoundsTest {
         DUE.is("THE TEXT is empty after it", x.count(5), 0);
         DUE.is("the one that held holds", x.told(1), 3);
         DUE.is("as many as before", x.count(1), 1);
-        DUE.is("the last one's n", Due.street(x, "wall 5;calm 2;wall 8;wear 4;calm 12;wear 0"), 1);
+        DUE.is("a FAULT behind CLAUSES", Due.street(x, "wall 9;loud 5 s=0;calm 9;x"), -35);
+        x.sound(0, 0, 20, 0);
+        DUE.is("the one that held holds", x.told(1), 3);
+        DUE.is("nothing is left of the FAULT's", Due.street(x, "wear 2"), 1);
+        DUE.is("WALL is as without", x.told(1), 6);
+        DUE.is("no CLAUSE is loud", x.of(0, 10), 20);
+        DUE.is("the last one's n", Due.street(x, "wall 5;calm 2;wall 8;wear 4;calm 12;wear 0"), 2);
         DUE.is("WALL", x.told(1), 8);
         DUE.is("CALM", x.told(2), 12);
         DUE.is("WEAR", x.told(3), 0);
-        DUE.is("WALL is as without", Due.street(x, "calm 99"), 2);
+        DUE.is("WALL is as without", Due.street(x, "calm 99"), 3);
         DUE.is("WALL", x.told(1), 6);
         DUE.is("CALM", x.told(2), 99);
-        for (int i = 3; i < 6; i++) {
+        for (int i = 4; i < 6; i++) {
             DUE.is("one more", Due.street(x, "wear 0" + i), i);
         }
         DUE.is("WEAR", x.told(3), 5);
@@ -307,7 +313,7 @@ public final class SoundsTest {
             holds(is, true);
             holds("!" + is, false);
         }
-        for (String is : new String[] {"s=1", "s<2", "s>2", "h=2", "k=0", "v<4", "l=57", "y=13", "v=44"}) {
+        for (String is : new String[] {"s=1", "s<2", "s>2", "h=2", "k=0", "v<4", "l>5", "l<5", "l=57", "y=13", "v=44"}) {
             holds(is, false);
             holds("!" + is, true);
         }
@@ -336,6 +342,13 @@ public final class SoundsTest {
         x.sound(0, 0, 20, 0);
         Due.street(x, "loud 10 s=0;loud 5 v=0;soft 7 h=0;soft 1 k=0;loud 50 s=1;soft 50 s=1");
         DUE.is("all together", x.of(0, 10), 27);
+        SqueakShop y = new SqueakShop();
+        Due.street(y, "loud 1 l=9");
+        for (int loud = 0; loud < 100; loud++) {
+            y.sound(0, 0, loud, 0);
+            y.set(0, loud);
+            DUE.is("l of LOUD " + loud, y.of(0, 10), loud / 10 == 9 ? loud + 1 : loud);
+        }
     }
 
     private static void fault(String text, int due) {

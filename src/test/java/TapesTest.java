@@ -112,7 +112,10 @@ public final class TapesTest {
             x.plan(-1, 0);
             x.book(-1, 0);
             x.see(0, 0, 0);
+            x.see(0, 0, 0);
             x.plan(0, 0);
+            x.plan(0, 0);
+            x.book(2, 2);
             x.book(2, 2);
             Due.street(x, "wall 1" + round);
             x.feed('w');
@@ -262,9 +265,11 @@ public final class TapesTest {
             DUE.is("sort " + sort, x.tape(5, sort, 60), 1);
             DUE.is("all 0", x.read(5, 59), 0);
             DUE.is("no more", x.read(5, 60), NO);
+            x.item(5, 0, 1);
             x.item(5, 59, 1);
         }
         x.tape(5, 0, 60);
+        DUE.is("all 0 again", x.read(5, 0), 0);
         DUE.is("all 0 again", x.read(5, 59), 0);
         DUE.is("no items", x.tape(4, 0, 0), 1);
         DUE.is("no items", x.item(4, 0, 0), -13);
@@ -345,6 +350,7 @@ public final class TapesTest {
         row(x, 0, 1, 1, 2, 3, 4);
         DUE.is("on the same, down", x.shift(0, 2, 0, 0, 3), 3);
         row(x, 0, 2, 3, 4, 3, 4);
+        DUE.is("all of it, to itself", x.shift(0, 0, 0, 0, 5), 5);
         DUE.is("none, at the ends", x.shift(0, 5, 1, 3, 0), 0);
         DUE.is("beyond the end of the one", x.shift(0, 4, 1, 0, 2), -13);
         DUE.is("beyond the end of the other", x.shift(0, 0, 1, 2, 2), -13);
