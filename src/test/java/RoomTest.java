@@ -1,7 +1,7 @@
 import com.sun.management.ThreadMXBean;
 import java.lang.management.ManagementFactory;
 
-/** All calls of a run live in one room: no call is to make objects; and the dearest ones end soon. */
+/** All calls of a run live in one room: no call is to make objects. */
 public final class RoomTest {
     private static final Due DUE = new Due("RoomTest");
     private static final int CALLS = 512;

@@ -342,6 +342,14 @@ public final class SoundsTest {
         x.sound(0, 0, 20, 0);
         Due.street(x, "loud 10 s=0;loud 5 v=0;soft 7 h=0;soft 1 k=0;loud 50 s=1;soft 50 s=1");
         DUE.is("all together", x.of(0, 10), 27);
+        SqueakShop z = new SqueakShop();
+        z.sound(0, 0, 20, 0);
+        String eight = "loud 1 s=0;loud 1 s=0;loud 1 s=0;loud 1 s=0;loud 1 s=0;loud 1 s=0;loud 1 s=0;loud 1 s=0;";
+        for (int i = 0; i < 12; i++) {
+            DUE.is("a FAULT behind 8 CLAUSES", Due.street(z, eight + "x"), -98);
+        }
+        DUE.is("9 CLAUSES that are loud", Due.street(z, eight + "loud 9 s=0"), 0);
+        DUE.is("all together", z.of(0, 10), 37);
         SqueakShop y = new SqueakShop();
         Due.street(y, "loud 1 l=9");
         for (int loud = 0; loud < 100; loud++) {
