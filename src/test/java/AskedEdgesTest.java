@@ -148,6 +148,11 @@ public final class AskedEdgesTest {
         EDGES.edgeOn(one, "2: SHARED: of these that by which all NOISE, together, is least (of several the first)", "street(wall 8) = 0",
             "shared(0) ~ 20", "shared(1) ~ 36", "shared(10) ~ 0", "street(wall 8;soft 1 h=4) = 1", "shared(10) ~ 4", "shared(0) ~ 19",
             "shared(1) ~ 33");
+        walled("2: SHARED: all NOISE, together, is least by 1 alone", "street(wall 99;soft 1 s=1&h=3) = 1", "sound(4, 0, 50, 2) = 0",
+            "sound(0, 0, 20, 2) = 1", "shared(0) ~ 50", "shared(1) ~ 69", "shared(10) ~ 0", "shared(11) ~ 3");
+        edge("2: SHARED: through thin walls", "sound(0, 0, 20, 2) = 0", "sound(0, 0, 30, 2) = 1", "street(wall 2) = 0", "shared(0) ~ 42",
+            "shared(1) ~ 210", "shared(10) ~ 0", "shared(11) ~ 4", "sound(3, 0, 9, 2) = 2", "shared(0) ~ 51", "shared(1) ~ 245", "shared(12) ~ 0",
+            "street(wall 0) = 1", "shared(0) ~ 59", "shared(1) ~ 295", "shared(12) ~ 0");
         EDGES.edgeOn(one, "2: SHARED: the greatest NOISE is ahead of all, together", "street(wall 8;loud 1 h=0;loud 1 h=4) = 0", "shared(0) ~ 20",
             "shared(1) ~ 48", "shared(10) ~ 1");
     }
@@ -207,6 +212,8 @@ public final class AskedEdgesTest {
         few("2: FEWEST: a LOST one is not PASSED ON", new String[] {"sound(0, 0, 20, 0) = 0", "sound(0, 0, 20, 0) = 1", "sound(0, 0, 9, 0) = 2",
             "lose(0) = 0"}, 1, 11, -5, -5);
         few("2: FEWEST: of several rows with so many the first", new String[] {"sound(0, 0, 11, 1) = 0", "sound(0, 0, 10, 1) = 1"}, 1, 0, -5, -5);
+        edge("2: FEWEST: STILL by CALM 0", "street(calm 0;wall 99) = 0", "fewest(-1) ~ 0", "sound(0, 0, 0, 0) = 0", "fewest(-1) ~ 0",
+            "sound(0, 0, 1, 0) = 1", "fewest(-1) ~ -5", "lose(1) = 0", "fewest(-1) ~ 0");
         String number = "Promise 18: k -1 how few, else the k-th (-5: there are fewer); NONE: k (-1 .. 2)";
         rich(number, "fewest(-2) ~ -1", "fewest(3) ~ -1", "fewest(MIN) ~ -1", "fewest(MAX) ~ -1");
         edge(number, "fewest(-1) ~ 0", "fewest(0) ~ -5", "fewest(2) ~ -5", "fewest(3) ~ -1", "fewest(-2) ~ -1");

@@ -195,6 +195,12 @@ public final class SoundEdgesTest {
             "street(wall 2) = 0");
         edge("Promise 10: the FAULT at the first byte and at the last", "street(0wall 1) = -10", "street(wall 1x) = -16", "street() = -10",
             "99 * feed(120) = 99", "street() = -10");
+        edge("Promise 10: nothing is left of a STREET with a FAULT", "sound(0, 0, 20, 0) = 0",
+            "10 * street(loud 1 s=0|s=0|s=0|s=0|s=0|s=0;x) = -41", "street(loud 1 s=1;soft 9 s=1) = 0",
+            "of(0, 10) = 20", "street(loud 1 s=0) = 1", "of(0, 10) = 21");
+        edge("Promise 10: THE TEXT is empty then: what stood there is not read again", "street(wall 7;loud 12 s=34) = 0", "street(wall 8;x) = -17",
+            "street(w) = -11", "street(wa) = -12", "street(wall) = -14", "street(wall ) = -15", "street(wall 8) = 1", "told(1) = 8",
+            "street(wall 9;) = -17", "street(wall 9;loud) = -21", "street(wall 9;loud 1 s=) = -26", "street() = -10");
         edge("Promise 10: a 6th one may still come behind FAULTS", "5 * street(wall 3) = 4", "10 * street(x) = -10", "count(1) = 5",
             "street(wall 2) = 5", "street(wall 2) = -4");
     }

@@ -86,6 +86,19 @@ public final class TapeEdgesTest {
             "undo() = 5");
         EDGES.allAsBefore(taken, sentence + "the BOOK, refilled", "book(-1, 0) = 0", "book(1, 1) = 1", "book(1, 2) = 2", "book(1, 0) = 3",
             "undo() = 5");
+        String[] one = {"sound(0, 0, 20, 0) = 0", "sound(0, 0, 30, 4) = 1", "see(0, 16, 5) = 1", "plan(2, 0) = 1", "book(0, 0) = 1", "image() = 2"};
+        for (String other : new String[] {"see(0, 16, 6) = 1", "see(0, 15, 5) = 1", "see(1, 16, 5) = 1"}) {
+            EDGES.edgeOn(one, sentence + "SEEN, each number", "louds(0, 1) = 20", "see(-1, 0, 0) = 0", other, "undo() = 2", "louds(0, 1) = 20",
+                "where(0) = 1");
+        }
+        for (String other : new String[] {"plan(3, 0) = 1", "plan(2, 1) = 1", "plan(0, 0) = 1"}) {
+            EDGES.edgeOn(one, sentence + "the PLAN, each number", "ends(0) = 32", "plan(-1, 0) = 0", other, "undo() = 2", "ends(0) = 32",
+                "lose(0) = 0", "ends(0) = 30");
+        }
+        for (String other : new String[] {"book(1, 0) = 1", "book(0, 4) = 1"}) {
+            EDGES.edgeOn(one, sentence + "the BOOK, each number", "looked() = -5", "book(-1, 0) = 0", other, "undo() = 2", "looked() = -5",
+                "lose(0) = 0", "looked() = 0");
+        }
         edge(sentence + "a SOUND that comes then is a new one", "image() = 0", "sound(6, 0, 0, 0) = 0", "row(0, 0, 9) = 0", "row(0, 1, 9) = 0",
             "undo() = 0", "of(0, 0) = -1001", "sound(6, 0, 0, 0) = 0", "row(0, 0, 1) = 0", "row(0, 1, 1) = 0");
         edge(sentence + "which STREET holds", "street(wall 1;calm 1;wear 1) = 0", "image() = 0", "street(wall 2;calm 2;wear 2) = 1", "undo() = 0",
