@@ -24,6 +24,8 @@ public final class SqueakShop {
     private static final int BOOKED_LOST = HOUSES;
     private static final int TOP_V = 9, TOP_LOUD = 99, TOP_YEAR = 9999, TOP_YEARS = 60;
     private static final int TOP_NOISE_SEEN = 999, TOP_YEARS_SEEN = 20, TOP_LOUD_TRIED = 40;
+    /** NOISE stays below it: six SOUNDS, each with ten CLAUSES of 99 at most. */
+    private static final int ABOVE_ALL_NOISE = 1000000;
     private static final int MOST_SEEN = 5, MOST_PLAN = 10, MOST_BOOK = 8, MOST_STEPS = 3;
     private static final int MOST_STREETS = 6, MOST_TEXT = 100, MOST_CLAUSES = 10, MOST_NESTED = 4;
     private static final int TAPES = 6, MOST_ITEMS = 60, MOST_TRACE = 20;
@@ -1068,7 +1070,7 @@ public final class SqueakShop {
         /** HOME. */
         int calmestHouse(int sound) {
             int calmest = 0;
-            int least = Integer.MAX_VALUE;
+            int least = ABOVE_ALL_NOISE;
             for (int there = 0; there < HOUSES; there++) {
                 put(sound, there);
                 int most = greatest();
@@ -1082,8 +1084,8 @@ public final class SqueakShop {
 
         /** SHARED. */
         void shareOut() {
-            bestGreatest = Integer.MAX_VALUE;
-            bestTotal = Integer.MAX_VALUE;
+            bestGreatest = ABOVE_ALL_NOISE;
+            bestTotal = ABOVE_ALL_NOISE;
             for (int there = 0; there < HOUSES; there++) {
                 sums[there] = 0;
                 for (int s = 0; s < sounds; s++) {
@@ -1096,7 +1098,7 @@ public final class SqueakShop {
 
         /** What is HEARD of a SOUND in a HOUSE at least, wherever it is put. */
         private int leastHeard(int sound, int there) {
-            int quietest = lost[sound] ? 0 : Integer.MAX_VALUE;
+            int quietest = lost[sound] ? 0 : ABOVE_ALL_NOISE;
             for (int from = 0; from < HOUSES; from++) {
                 quietest = Math.min(quietest, heardFrom(sound, from, there));
             }
@@ -1174,7 +1176,7 @@ public final class SqueakShop {
 
         /** WORST. */
         int worstSound() {
-            int least = Integer.MAX_VALUE;
+            int least = ABOVE_ALL_NOISE;
             int worst = LACKING;
             for (int s = 0; s < sounds; s++) {
                 int before = house[s];

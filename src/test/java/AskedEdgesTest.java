@@ -90,6 +90,12 @@ public final class AskedEdgesTest {
         edge("2: y and ROWS beyond 9999", "166 * years(60) = 9960", "years(39) = 9999", "sound(6, 3, 20, 4) = 0", "row(0, 0, 5) = 0",
             "row(0, 3, 1) = 0", "street(wear 0;loud 50 y=0;loud 2 y=9) = 0", "on(0, 14) ~ 23", "on(1, 14) ~ 75", "on(5, 14) ~ 25",
             "on(9, 14) ~ 25", "on(2, 14) ~ 20");
+        edge("2: goes on from how all is: the last SOUND's KIND, v, LOUD, HOUSE, too", "5 * sound(0, 0, 0, 0) = 4", "sound(5, 9, 30, 3) = 5",
+            "street(wear 2;wall 4;loud 5 v=9&k=5&s=5&h=3) = 0", "on(0, 10) ~ 20", "on(0, 13) ~ 17", "on(0, 14) ~ 15", "on(1, 10) ~ 30",
+            "on(1, 13) ~ 33", "on(1, 25) ~ 28", "on(1, 24) ~ 0", "mean(0, 0) ~ 98", "mean(0, 1) ~ 5");
+        edge("2: goes on from how all is: the last SOUND's ROW, too", "6 * sound(6, 0, 20, 4) = 5", "row(5, 0, 9) = 0", "row(5, 3, 4) = 0",
+            "street(wear 0;wall 99) = 0", "on(0, 14) ~ 129", "on(1, 14) ~ 120", "on(3, 14) ~ 124", "on(4, 0) ~ 129", "mean(3, 0) ~ 124",
+            "3 * plan(0, 0) = 3", "ends(0) ~ 124", "see(4, 124, 3) = 1", "louds(5, 1) ~ 20");
     }
 
     private static void stillBy() {
@@ -112,6 +118,8 @@ public final class AskedEdgesTest {
             "when(1, 1) ~ -5", "find(1, 0) = 0", "when(1, 1) ~ 0");
         edge(lasts, "sound(6, 0, 1, 0) = 0", "when(1, 0) ~ 2", "set(0, 30) = 1", "when(1, 0) ~ 60", "set(0, 31) = 30", "when(1, 0) ~ -5",
             "years(1) = 1", "when(1, 0) ~ -5", "set(0, 30) = 31", "when(1, 0) ~ 59", "sound(1, 0, 1, 0) = 1", "when(1, 1) ~ -5");
+        edge(lasts, "sound(0, 0, 5, 0) = 0", "sound(0, 0, 6, 0) = 1", "sound(0, 0, 7, 0) = 2", "lose(1) = 0", "when(1, 0) ~ 5", "when(1, 1) ~ -5",
+            "when(1, 2) ~ 7", "find(1, 4) = 6", "lose(0) = 0", "when(1, 0) ~ -5", "when(1, 1) ~ 6", "lose(2) = 0", "when(1, 2) ~ -5");
         rich("Promise 14: NONE: no such SOUND", "when(1, -1) ~ -1", "when(1, 5) ~ -1", "when(1, 6) ~ -1", "when(1, MIN) ~ -1", "when(1, MAX) ~ -1");
         rich("Promise 14: NONE: no such what", "when(-1, 0) ~ -1", "when(2, 0) ~ -1", "when(MIN, 0) ~ -1", "when(MAX, 0) ~ -1");
         full("Promise 14: the last SOUND", "when(1, 5) ~ -5", "when(1, 6) ~ -1");
@@ -125,6 +133,8 @@ public final class AskedEdgesTest {
             "lose(0) = 0", "home(3) ~ 0", "home(1) ~ 0");
         walled("2: HOME: a LOST one is found by that", "sound(0, 0, 30, 0) = 0", "sound(0, 0, 20, 1) = 1", "lose(0) = 0", "home(0) ~ 0",
             "lose(1) = 1", "home(1) ~ 0", "find(0, 0) = 30", "home(1) ~ 1", "of(1, 3) = -5");
+        edge("2: HOME: less by 1 is less", "sound(0, 0, 20, 0) = 0", "street(soft 1 h=1) = 0", "home(0) ~ 1", "street(soft 1 h=1;soft 2 h=4) = 1",
+            "home(0) ~ 4");
         edge("2: HOME: by how it is HEARD from there", "sound(0, 0, 20, 2) = 0", "street(loud 5 h<3) = 0", "home(0) ~ 3", "street(soft 5 h=4) = 1",
             "home(0) ~ 4", "street(loud 1 h>9) = 2", "home(0) ~ 0");
         rich("Promise 15: NONE", "home(-1) ~ -1", "home(5) ~ -1", "home(6) ~ -1", "home(MIN) ~ -1", "home(MAX) ~ -1");
@@ -153,6 +163,14 @@ public final class AskedEdgesTest {
         edge("2: SHARED: through thin walls", "sound(0, 0, 20, 2) = 0", "sound(0, 0, 30, 2) = 1", "street(wall 2) = 0", "shared(0) ~ 42",
             "shared(1) ~ 210", "shared(10) ~ 0", "shared(11) ~ 4", "sound(3, 0, 9, 2) = 2", "shared(0) ~ 51", "shared(1) ~ 245", "shared(12) ~ 0",
             "street(wall 0) = 1", "shared(0) ~ 59", "shared(1) ~ 295", "shared(12) ~ 0");
+        edge("2: SHARED: of all ways: the last ones are best in HOUSE 0 and 4, the one ahead is not", "3 * sound(0, 0, 30, 2) = 2",
+            "street(wall 0;soft 1 s=0&h=1;soft 1 s=1&h=0;soft 1 s=2&h=4) = 0", "shared(0) ~ 87", "shared(1) ~ 435", "shared(10) ~ 1",
+            "shared(11) ~ 0", "shared(12) ~ 4");
+        walled("2: SHARED: the first one is LOST", "3 * sound(0, 0, 30, 2) = 2", "lose(0) = 2", "shared(0) ~ 30", "shared(1) ~ 60",
+            "shared(10) ~ -5", "shared(11) ~ 0", "shared(12) ~ 1");
+        edge("2: SHARED: of each SOUND that is not LOST: a LOST one is nothing, though it is LOUD", "sound(0, 0, 30, 2) = 0",
+            "sound(0, 0, 20, 2) = 1", "lose(1) = 2", "street(wall 0;soft 1 h=1) = 0", "shared(0) ~ 29", "shared(1) ~ 145", "shared(10) ~ 1",
+            "shared(11) ~ -5");
         EDGES.edgeOn(one, "2: SHARED: the greatest NOISE is ahead of all, together", "street(wall 8;loud 1 h=0;loud 1 h=4) = 0", "shared(0) ~ 20",
             "shared(1) ~ 48", "shared(10) ~ 1");
     }
@@ -170,6 +188,10 @@ public final class AskedEdgesTest {
         walled("2: CHANGE: neither LOST", "sound(0, 0, 20, 0) = 0", "sound(0, 0, 20, 0) = 1", "sound(0, 0, 10, 1) = 2", "best(0) ~ 2",
             "lose(0) = 0", "best(0) ~ -5", "find(0, 0) = 40", "lose(2) = 1", "best(0) ~ -5", "find(2, 1) = 10", "lose(1) = 0", "best(0) ~ -5",
             "sound(0, 0, 15, 0) = 3", "best(0) ~ 2");
+        walled("2: CHANGE: neither LOST, though the LOST one is less LOUD", "sound(0, 0, 5, 0) = 0", "sound(0, 0, 20, 0) = 1", "lose(0) = 0",
+            "best(0) ~ -5", "sound(0, 0, 6, 3) = 2", "sound(0, 0, 20, 4) = 3", "lose(2) = 3", "best(0) ~ -5");
+        walled("2: CHANGE: neither LOST, of which the lesser is not the first", "sound(0, 0, 20, 1) = 0", "sound(0, 0, 5, 0) = 1",
+            "sound(0, 0, 30, 0) = 2", "lose(1) = 0", "best(0) ~ -5");
         edge("2: CHANGE: -5: none", "best(0) ~ -5");
         rich("Promise 17: NONE", "best(-1) ~ -1", "best(2) ~ -1", "best(MIN) ~ -1", "best(MAX) ~ -1");
     }
@@ -181,6 +203,7 @@ public final class AskedEdgesTest {
         walled(sentence, "5 * sound(0, 0, 10, 0) = 4", "sound(0, 0, 11, 0) = 5", "best(1) ~ 5", "set(5, 10) = 11", "best(1) ~ 0");
         walled("2: WORST: without a LOST one all is as it is", "sound(0, 0, 30, 0) = 0", "sound(0, 0, 20, 1) = 1", "lose(0) = 0", "best(1) ~ 1",
             "lose(1) = 1", "best(1) ~ 0");
+        walled(sentence, "sound(0, 0, 10, 0) = 0", "sound(0, 0, 10, 1) = 1", "sound(0, 0, 15, 1) = 2", "best(1) ~ 2");
         edge("2: WORST: -5: there are none", "best(1) ~ -5", "sound(0, 0, 0, 0) = 0", "best(1) ~ 0");
     }
 
@@ -211,6 +234,9 @@ public final class AskedEdgesTest {
             "lose(0) = 0"}, 0, -5, -5, -5);
         few("2: FEWEST: a LOST one is not PASSED ON", new String[] {"sound(0, 0, 20, 0) = 0", "sound(0, 0, 20, 0) = 1", "sound(0, 0, 9, 0) = 2",
             "lose(0) = 0"}, 1, 11, -5, -5);
+        few("2: FEWEST: a LOST one is not PASSED ON, the others are", new String[] {"3 * sound(0, 0, 20, 0) = 2", "lose(1) = 0"}, 1, 1, -5, -5);
+        few("2: FEWEST: a LOST one is not PASSED ON, the others are", new String[] {"sound(0, 0, 20, 1) = 0", "2 * sound(0, 0, 20, 4) = 2",
+            "sound(0, 0, 20, 0) = 3", "lose(1) = 4", "sound(0, 0, 1, 4) = 4"}, 1, 23, -5, -5);
         few("2: FEWEST: of several rows with so many the first", new String[] {"sound(0, 0, 11, 1) = 0", "sound(0, 0, 10, 1) = 1"}, 1, 0, -5, -5);
         edge("2: FEWEST: STILL by CALM 0", "street(calm 0;wall 99) = 0", "fewest(-1) ~ 0", "sound(0, 0, 0, 0) = 0", "fewest(-1) ~ 0",
             "sound(0, 0, 1, 0) = 1", "fewest(-1) ~ -5", "lose(1) = 0", "fewest(-1) ~ 0");
@@ -290,6 +316,8 @@ public final class AskedEdgesTest {
             "see(-1, 0, 0) = 0", "see(2, 0, 20) = 1", "where(0) ~ 31", "of(0, 3) = -5");
         EDGES.edgeOn(one, "2: WHERE: by the VOICE there", "street(loud 5 h>2) = 0", "see(3, 19, 0) = 1", "where(0) ~ 16", "see(2, 14, 0) = 2",
             "where(0) ~ 0");
+        edge("2: WHERE: of the last SOUND", "5 * sound(0, 0, 0, 0) = 4", "sound(4, 0, 20, 2) = 5", "see(3, 20, 0) = 1", "where(5) ~ 8",
+            "where(0) ~ 0", "where(4) ~ 0", "of(5, 3) = 2");
         rich("Promise 22: NONE", "where(-1) ~ -1", "where(5) ~ -1", "where(6) ~ -1", "where(MIN) ~ -1", "where(MAX) ~ -1");
     }
 
@@ -358,6 +386,17 @@ public final class AskedEdgesTest {
             "ends(0) ~ 41", "plan(1, 0) = 10", "ends(0) ~ 11");
         edge("2: a PLAN: 10 rows at most, all of which go", "sound(0, 0, 50, 0) = 0", "10 * plan(0, 0) = 10", "ends(0) ~ 40", "plan(0, 0) = -4",
             "ends(0) ~ 40");
+        // each is HEARD by its HOUSE's number more, in all HOUSES alike
+        String[] three = {"street(wall 0;loud 1 h=1;loud 2 h=2;loud 3 h=3;loud 4 h=4;wear 0) = 0", "sound(0, 0, 20, 0) = 0",
+            "sound(0, 0, 20, 4) = 1", "sound(0, 0, 20, 2) = 2"};
+        EDGES.edgeOn(three, "2: a PLAN: SOUND n, whichever it is", "ends(0) ~ 66", "plan(3, 1) = 1", "ends(0) ~ 65", "plan(2, 2) = 2",
+            "ends(0) ~ 66", "plan(2, 2) = 3", "ends(0) ~ 67", "plan(2, 2) = 4", "ends(0) ~ 67", "plan(3, 0) = 5", "ends(0) ~ 67",
+            "plan(2, 0) = 6", "ends(0) ~ 68", "plan(1, 1) = 7", "ends(0) ~ 45", "plan(1, 2) = 8", "ends(0) ~ 21", "of(1, 3) = 4",
+            "of(2, 3) = 2");
+        EDGES.edgeOn(three, "2: a PLAN: nothing, if it is LOST, though others are not", "lose(1) = 4", "ends(0) ~ 42", "plan(3, 1) = 1",
+            "plan(2, 1) = 2", "plan(1, 1) = 3", "ends(0) ~ 42", "plan(2, 2) = 4", "ends(0) ~ 43", "plan(2, 0) = 5", "ends(0) ~ 44");
+        EDGES.edgeOn(three, "2: a PLAN: something, if others are LOST", "lose(0) = 0", "ends(0) ~ 46", "plan(3, 1) = 1", "ends(0) ~ 45",
+            "plan(2, 2) = 2", "ends(0) ~ 46", "plan(1, 1) = 3", "ends(0) ~ 23");
         walled("2: ENDS: the greatest NOISE; how many HOUSES are STILL", "sound(0, 0, 20, 0) = 0", "sound(0, 0, 21, 4) = 1", "ends(0) ~ 21",
             "ends(1) ~ 4", "plan(3, 1) = 1", "ends(1) ~ 4", "plan(1, 1) = 2", "ends(0) ~ 20", "ends(1) ~ 5");
         edge("2: ENDS: no rows: as it is", "ends(0) ~ 0", "ends(1) ~ 5", "sound(0, 0, 40, 2) = 0", "ends(0) ~ 40", "ends(1) ~ 0");

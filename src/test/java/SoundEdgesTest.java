@@ -102,6 +102,10 @@ public final class SoundEdgesTest {
         EDGES.edgeOn(told, "Promise 3: -5: LOST; VOICE (LOST: 0)", "lose(0) = 3", "of(0, 3) ~ -5", "of(0, 10) ~ 0", "of(0, 13) ~ 0",
             "of(0, 14) ~ 0", "of(0, 20) ~ 0", "of(0, 23) ~ 0", "of(0, 0) ~ 6", "of(0, 1) ~ 7", "of(0, 2) ~ 45", "of(0, 4) ~ 0",
             "of(0, 15) ~ -1001", "of(0, 5) ~ -1001");
+        edge("Promise 3: of each SOUND its own", "sound(0, 0, 20, 0) = 0", "sound(1, 3, 30, 4) = 1", "sound(6, 0, 40, 2) = 2", "street(wear 9) = 0",
+            "years(1) = 1", "of(0, 4) ~ 9", "of(1, 4) ~ 4", "of(2, 4) ~ 9", "lose(1) = 4", "of(1, 3) ~ -5", "of(1, 12) ~ 0", "of(1, 22) ~ 0",
+            "of(2, 12) ~ 40", "of(0, 12) ~ 11", "lose(0) = 0", "of(2, 12) ~ 40", "of(2, 22) ~ 40", "of(0, 12) ~ 0", "of(2, 3) ~ 2",
+            "years(1) = 2", "of(0, 4) ~ 9", "of(1, 4) ~ 4", "of(2, 4) ~ 0");
         refusedIfFull("Promise 3: the last SOUND", "of(5, 0) ~ 5", "of(5, 1) ~ 9", "of(5, 24) ~ 47", "of(6, 0) ~ -1001", "of(3, 3) ~ -5");
     }
 
@@ -201,6 +205,9 @@ public final class SoundEdgesTest {
         edge("Promise 10: THE TEXT is empty then: what stood there is not read again", "street(wall 7;loud 12 s=34) = 0", "street(wall 8;x) = -17",
             "street(w) = -11", "street(wa) = -12", "street(wall) = -14", "street(wall ) = -15", "street(wall 8) = 1", "told(1) = 8",
             "street(wall 9;) = -17", "street(wall 9;loud) = -21", "street(wall 9;loud 1 s=) = -26", "street() = -10");
+        edge("Promise 10: THE TEXT is empty then: nor behind a ;", "street(wall 7;calm 12;loud 34 s=56&v=78) = 0", "street(wall 8;cal) = -20",
+            "street(wall 8;c) = -18", "street(wall 8;calm) = -21", "street(wall 8;calm ) = -22", "street(wall 8;calm 12;loud) = -29",
+            "street(wall 8;calm 12;loud 34 s) = -34", "street(wall 8;calm 12;loud 34 s=) = -35", "street(wall 8;calm 12;loud 34 s=5) = 1");
         edge("Promise 10: a 6th one may still come behind FAULTS", "5 * street(wall 3) = 4", "10 * street(x) = -10", "count(1) = 5",
             "street(wall 2) = 5", "street(wall 2) = -4");
     }

@@ -252,6 +252,10 @@ public final class StreetEdgesTest {
             "street(loud 1 s=0&v=0&k=0&h=1) = 4", "of(0, 10) = 20");
         EDGES.edgeOn(ONE, "1: E of T, T of F", "street(loud 1 s=0|s=1&s=1) = 0", "of(0, 10) = 21", "street(loud 1 s=1&s=1|s=0) = 1",
             "of(0, 10) = 21", "street(loud 1 s=1&s=0|s=1) = 2", "of(0, 10) = 20");
+        EDGES.edgeOn(ONE, "1: E of T, T of F: what is ahead of a ( stays as it is", "street(loud 1 s=1&(s=0|s=0)) = 0", "of(0, 10) = 20",
+            "street(loud 1 s=1&(s=0&s=0)) = 1", "of(0, 10) = 20", "street(loud 1 s=0&(s=1|s=1)|s=1) = 2", "of(0, 10) = 20",
+            "street(loud 1 s=0&(s=1&s=1|s=0)) = 3", "of(0, 10) = 21", "street(loud 1 s=1|!(s=0|s=0)) = 4", "of(0, 10) = 20",
+            "street(loud 1 s=0|!(s=0&s=0)) = 5", "of(0, 10) = 21");
         String one = "1: F: !F, (E), or a TEST";
         EDGES.edgeOn(ONE, one, "street(loud 1 !s=0) = 0", "of(0, 10) = 20", "street(loud 1 !s=1) = 1", "of(0, 10) = 21",
             "street(loud 1 !!s=0) = 2", "of(0, 10) = 21", "street(loud 1 (s=0|s=1)&s=1) = 3", "of(0, 10) = 20",
@@ -279,6 +283,9 @@ public final class StreetEdgesTest {
             "street(loud 1 (((!s=0&(s=0)|(s=1))))) = 0", "street(loud 1 ((((s=0))))&!(!(s=1))) = 0",
             "street(loud 1 ((((s=0))))&!(!(!s=1))) = -33", "street(loud 1 ((((s=0))));loud 1 ((((s=0))))) = 0",
             "street(loud 1 s=0|(s=0|(s=0|(s=0|(s=0))))) = 0", "street(loud 1 s=0|(s=0|(s=0|(s=0|(s=0|(s=0)))))) = -41");
+        EDGES.each(ONE, "1: within: also behind a & or |", "street(loud 1 ((((s=0&s=0))))) = 0", "street(loud 1 ((((s=0&(s=0)))))) = -25",
+            "street(loud 1 ((((s=0&!s=0))))) = -25", "street(loud 1 ((((s=0|(s=0)))))) = -25", "street(loud 1 ((((s=0|!s=0))))) = -25",
+            "street(loud 1 (((s=0&(s=0)|!s=0)))) = 0", "street(loud 1 (((s=0&((s=0))))) = -25", "street(loud 1 !(((s=0&s=0|(s=0))))) = -29");
         EDGES.edgeOn(ONE, "1: 4 of them hold as told", "street(loud 1 ((((s=0))))) = 0", "of(0, 10) = 21",
             "street(loud 1 !!!!s=0) = 1", "of(0, 10) = 21", "street(loud 1 !(!(s=1))) = 2", "of(0, 10) = 20",
             "street(loud 1 !!!(s=0)) = 3", "of(0, 10) = 20",
@@ -356,6 +363,9 @@ public final class StreetEdgesTest {
         }
         edge("1: HEARD from a SOUND that is in one HOUSE, in another one (or the same): by its VOICE in the one",
             "sound(0, 0, 20, 1) = 0", "street(loud 5 h=1;loud 50 h=2) = 0", "of(0, 21) = 25", "of(0, 22) = 19", "of(0, 20) = 19");
+        edge("1: HEARD: each by its VOICE in its own HOUSE", "sound(0, 0, 20, 0) = 0", "sound(0, 0, 20, 1) = 1", "sound(0, 0, 20, 2) = 2",
+            "street(loud 5 h=1;loud 9 h=2) = 0", "of(0, 20) = 20", "of(1, 21) = 25", "of(1, 20) = 19", "of(2, 22) = 29", "of(2, 20) = 17",
+            "told(10) = 56");
     }
 
     private static void heardOfDrum() {

@@ -99,6 +99,9 @@ public final class TapeEdgesTest {
             EDGES.edgeOn(one, sentence + "the BOOK, each number", "looked() = -5", "book(-1, 0) = 0", other, "undo() = 2", "looked() = -5",
                 "lose(0) = 0", "looked() = 0");
         }
+        edge(sentence + "SOUNDS with all that is theirs: the last one's ROW, too", "6 * sound(6, 0, 20, 4) = 5", "row(5, 0, 9) = 0",
+            "row(5, 3, 4) = 0", "image() = 6", "row(5, 0, 1) = 9", "row(5, 3, 2) = 4", "undo() = 6", "told(14) = 129", "row(5, 3, 0) = 4",
+            "row(5, 0, 0) = 9");
         edge(sentence + "a SOUND that comes then is a new one", "image() = 0", "sound(6, 0, 0, 0) = 0", "row(0, 0, 9) = 0", "row(0, 1, 9) = 0",
             "undo() = 0", "of(0, 0) = -1001", "sound(6, 0, 0, 0) = 0", "row(0, 0, 1) = 0", "row(0, 1, 1) = 0");
         edge(sentence + "which STREET holds", "street(wall 1;calm 1;wear 1) = 0", "image() = 0", "street(wall 2;calm 2;wear 2) = 1", "undo() = 0",
