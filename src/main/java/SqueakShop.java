@@ -395,18 +395,21 @@ public final class SqueakShop {
     /** What stands above (part 0) or below (1) the line in lowest terms. */
     private static long ofFraction(int above, int below, int part) {
         int common = commonDivisor(above, below);
-        if (common == 0) {
+        if (common < 1 || part != 0 && part != 1) {
             return NO;
         }
-        switch (part) {
-            case 0: return above / common;
-            case 1: return below / common;
-            default: return NO;
-        }
+        return (part == 0 ? above : below) / common;
     }
 
-    private static int commonDivisor(int a, int b) {
-        return b == 0 ? a : commonDivisor(b, a % b);
+    /** Tried one by one: below the line are five (HOUSES) or six (SOUNDS) at most. */
+    private static int commonDivisor(int above, int below) {
+        int common = 1;
+        for (int n = 2; n <= below; n++) {
+            if (above % n == 0 && below % n == 0) {
+                common = n;
+            }
+        }
+        return common;
     }
 
     // ---- plans, books
@@ -859,8 +862,9 @@ public final class SqueakShop {
                         bits = (bits >> 1) | (bits & 1);
                         break;
                     default:
-                        boolean is = Integer.compare(letters[operator[i]], number[i]) == order[i];
-                        bits = bits << 1 | (is ? 1 : 0);
+                        int is = letters[operator[i]];
+                        boolean so = order[i] < 0 ? is < number[i] : order[i] > 0 ? is > number[i] : is == number[i];
+                        bits = bits << 1 | (so ? 1 : 0);
                 }
             }
             return (bits & 1) == 1;

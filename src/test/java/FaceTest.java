@@ -116,8 +116,8 @@ public final class FaceTest {
         DUE.holds("a method reference", !code.contains("::"));
         Matcher library = Pattern.compile("\\b(Math|System|Arrays|Integer|Long|Character|Byte|Short|Boolean|Object|Thread)\\.(\\w+)")
             .matcher(code);
-        Set<String> allowed = Set.of("Math.abs", "Math.max", "Math.min", "Integer.compare",
-            "Integer.bitCount", "Long.MIN_VALUE", "System.arraycopy");
+        Set<String> allowed = Set.of("Math.abs", "Math.max", "Math.min", "Integer.bitCount",
+            "Long.MIN_VALUE", "System.arraycopy");
         while (library.find()) {
             DUE.holds("the library's " + library.group(), allowed.contains(library.group()));
         }
